@@ -10,6 +10,7 @@ public final class PromiseTest {
         promise2MoveIsSkippedOnACircle();
         promise2MoveAnswersForItselfAlone();
         promise2MoveRefuses();
+        promise2SixtiethChangeMayBeAMove();
         promise2And3CountSixtyInAll();
         promise3NameSetsTheLabel();
         promise3NameRefuses();
@@ -123,6 +124,18 @@ public final class PromiseTest {
         due("move(0, 0, 0)", x.move(0, 0, 0), -1);
         dueStart("after refused moves", x);
         dueNothingKnown("after refused moves", x);
+    }
+
+    private static void promise2SixtiethChangeMayBeAMove() {
+        MoveTree x = new MoveTree();
+        for (int i = 1; i < 60; i++) {
+            due("name(2, 1, " + i + ")", x.name(2, 1, i), 0);
+        }
+        due("move(2, 1, 1), the 60th", x.move(2, 1, 1), 1);
+        due("move(2, 1, 2), the 61st", x.move(2, 1, 2), -1);
+        due("parent(2, 1)", x.parent(2, 1), -1);
+        due("sync(2, 0)", x.sync(2, 0), 60);
+        due("skipped(0)", x.skipped(0), 1);
     }
 
     private static void promise2And3CountSixtyInAll() {
