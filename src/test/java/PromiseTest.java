@@ -1,30 +1,17 @@
-/** One method or more for each promise: ordinary inputs, edges, wrong inputs. */
+/** One method or more for each promise: its ordinary use; BoundaryTest has the rest. */
 public final class PromiseTest {
-    private static final int[] NO_REPLICAS = {-1, 3, Integer.MIN_VALUE, Integer.MAX_VALUE};
-    private static final int[] NO_NODES = {-1, 10, Integer.MIN_VALUE, Integer.MAX_VALUE};
-
     public static void main(String[] args) {
         promise1NewObjectShowsTheStart();
         promise1ObjectsShareNothing();
         promise2MoveSetsTheParent();
         promise2MoveIsSkippedOnACircle();
-        promise2MoveAnswersForItselfAlone();
-        promise2MoveRefuses();
-        promise2SixtiethChangeMayBeAMove();
-        promise2And3CountSixtyInAll();
         promise3NameSetsTheLabel();
-        promise3NameRefuses();
         promise4DeliverGoesByOriginAndNumber();
         promise4DeliverTakesNoOtherOriginsChanges();
         promise4DeliverAnswersSkippedThere();
-        promise4DeliverRefuses();
         promise5SyncPassesOnAllThatIsKnown();
-        promise5SyncRefuses();
         promise6ParentFollowsTheStamps();
-        promise6MoveIsRevivedByAnEarlierOne();
-        promise6ParentRefuses();
         promise7LabelFollowsTheStamps();
-        promise7LabelRefuses();
         promise8ChildrenAreCounted();
         promise9DepthCountsSteps();
         promise10SkippedCountsMoves();
@@ -103,87 +90,16 @@ public final class PromiseTest {
         due("skipped(0)", x.skipped(0), 4);
     }
 
-    private static void promise2MoveAnswersForItselfAlone() {
-        MoveTree x = new MoveTree();
-        due("move(0, 1, 1)", x.move(0, 1, 1), 1);
-        due("move(0, 1, 2) after a skipped one", x.move(0, 1, 2), 0);
-        due("move(0, 2, 1)", x.move(0, 2, 1), 1);
-        due("move(1, 2, 1) where the first is unknown", x.move(1, 2, 1), 0);
-    }
-
-    private static void promise2MoveRefuses() {
-        MoveTree x = new MoveTree();
-        for (int bad : NO_REPLICAS) {
-            due("move(" + bad + ", 1, 0)", x.move(bad, 1, 0), -1);
-        }
-        for (int bad : NO_NODES) {
-            due("move(0, " + bad + ", 0)", x.move(0, bad, 0), -1);
-            due("move(0, 1, " + bad + ")", x.move(0, 1, bad), -1);
-        }
-        due("move(0, 0, 1)", x.move(0, 0, 1), -1);
-        due("move(0, 0, 0)", x.move(0, 0, 0), -1);
-        dueStart("after refused moves", x);
-        dueNothingKnown("after refused moves", x);
-    }
-
-    private static void promise2SixtiethChangeMayBeAMove() {
-        MoveTree x = new MoveTree();
-        for (int i = 1; i < 60; i++) {
-            due("name(2, 1, " + i + ")", x.name(2, 1, i), 0);
-        }
-        due("move(2, 1, 1), the 60th", x.move(2, 1, 1), 1);
-        due("move(2, 1, 2), the 61st", x.move(2, 1, 2), -1);
-        due("parent(2, 1)", x.parent(2, 1), -1);
-        due("sync(2, 0)", x.sync(2, 0), 60);
-        due("skipped(0)", x.skipped(0), 1);
-    }
-
-    private static void promise2And3CountSixtyInAll() {
-        for (int origins = 1; origins <= 3; origins++) {
-            MoveTree x = new MoveTree();
-            for (int i = 0; i < 60; i++) {
-                int r = i % origins;
-                due("refused before the 60th", i % 2 == 0 ? x.move(r, 0, 1) : x.name(r, 10, 1), -1);
-                due("change " + (i + 1), i % 2 == 0 ? x.move(r, 1, 2) : x.name(r, 3, i), 0);
-            }
-            for (int r = 0; r < 3; r++) {
-                due("move after 60", x.move(r, 1, 5), -1);
-                due("move after 60, a circle", x.move(r, 1, 1), -1);
-                due("name after 60", x.name(r, 3, 99), -1);
-            }
-            due("parent(0, 1) after 60", x.parent(0, 1), 2);
-            due("skipped(0) after 60", x.skipped(0), 0);
-            int learnt = x.sync(1, 0) + x.sync(2, 0);
-            due("changes that 0 learns", learnt, 60 - 60 / origins);
-            due("label(0, 3), the latest", x.label(0, 3), 59);
-            due("sync(0, 2)", x.sync(0, 2), origins == 3 ? 40 : 60);
-            due("alike(0, 2)", x.alike(0, 2), 1);
-        }
-    }
-
     private static void promise3NameSetsTheLabel() {
         MoveTree x = new MoveTree();
-        int[] labels = {1, -1, Integer.MAX_VALUE, Integer.MIN_VALUE, 0};
-        for (int node = 0; node < 10; node++) {
-            for (int label : labels) {
-                due("name(1, " + node + ", " + label + ")", x.name(1, node, label), 0);
-                due("label(1, " + node + ")", x.label(1, node), label);
-            }
-        }
-        due("sync(1, 0)", x.sync(1, 0), 50);
-        due("skipped(1)", x.skipped(1), 0);
-    }
-
-    private static void promise3NameRefuses() {
-        MoveTree x = new MoveTree();
-        for (int bad : NO_REPLICAS) {
-            due("name(" + bad + ", 1, 5)", x.name(bad, 1, 5), -1);
-        }
-        for (int bad : NO_NODES) {
-            due("name(0, " + bad + ", 5)", x.name(0, bad, 5), -1);
-        }
-        dueStart("after refused namings", x);
-        dueNothingKnown("after refused namings", x);
+        due("name(1, 4, 7)", x.name(1, 4, 7), 0);
+        due("label(1, 4)", x.label(1, 4), 7);
+        due("label(1, 5) another node", x.label(1, 5), 0);
+        due("label(0, 4) elsewhere", x.label(0, 4), 0);
+        due("name(1, 4, 8)", x.name(1, 4, 8), 0);
+        due("label(1, 4) named anew", x.label(1, 4), 8);
+        due("sync(1, 0)", x.sync(1, 0), 2);
+        due("label(0, 4) told", x.label(0, 4), 8);
     }
 
     private static void promise4DeliverGoesByOriginAndNumber() {
@@ -228,18 +144,6 @@ public final class PromiseTest {
         due("skipped(2)", x.skipped(2), 0);
     }
 
-    private static void promise4DeliverRefuses() {
-        MoveTree x = new MoveTree();
-        x.move(0, 1, 2);
-        for (int bad : NO_REPLICAS) {
-            due("deliver(" + bad + ", 1)", x.deliver(bad, 1), -1);
-            due("deliver(0, " + bad + ")", x.deliver(0, bad), -1);
-        }
-        due("deliver(0, 0)", x.deliver(0, 0), -1);
-        due("parent(1, 1)", x.parent(1, 1), -1);
-        due("deliver(0, 1)", x.deliver(0, 1), 0);
-    }
-
     private static void promise5SyncPassesOnAllThatIsKnown() {
         MoveTree x = new MoveTree();
         x.move(0, 1, 2);
@@ -257,17 +161,6 @@ public final class PromiseTest {
         due("sync(0, 2)", x.sync(0, 2), 0);
     }
 
-    private static void promise5SyncRefuses() {
-        MoveTree x = new MoveTree();
-        x.move(0, 1, 2);
-        for (int bad : NO_REPLICAS) {
-            due("sync(" + bad + ", 1)", x.sync(bad, 1), -1);
-            due("sync(0, " + bad + ")", x.sync(0, bad), -1);
-            due("sync(" + bad + ", " + bad + ")", x.sync(bad, bad), -1);
-        }
-        due("parent(1, 1)", x.parent(1, 1), -1);
-    }
-
     private static void promise6ParentFollowsTheStamps() {
         MoveTree x = new MoveTree();
         x.move(1, 1, 5);
@@ -283,39 +176,6 @@ public final class PromiseTest {
         due("parent(0, 1), the greater number", x.parent(0, 1), 7);
     }
 
-    private static void promise6MoveIsRevivedByAnEarlierOne() {
-        MoveTree x = new MoveTree();
-        x.move(1, 1, 2);
-        due("move(1, 2, 1)", x.move(1, 2, 1), 1);
-        x.name(0, 0, 0);
-        x.move(0, 1, 3);
-        due("deliver(0, 1) a naming", x.deliver(0, 1), 1);
-        due("deliver(0, 1) a move before the skipped one", x.deliver(0, 1), 0);
-        due("parent(1, 1)", x.parent(1, 1), 3);
-        due("parent(1, 2)", x.parent(1, 2), 1);
-    }
-
-    private static void promise6ParentRefuses() {
-        MoveTree x = new MoveTree();
-        x.move(0, 1, 2);
-        for (int bad : NO_REPLICAS) {
-            due("parent(" + bad + ", 1)", x.parent(bad, 1), -1);
-            due("children(" + bad + ", 2)", x.children(bad, 2), -1);
-            due("depth(" + bad + ", 1)", x.depth(bad, 1), -1);
-            due("skipped(" + bad + ")", x.skipped(bad), -1);
-            due("alike(" + bad + ", 0)", x.alike(bad, 0), -1);
-            due("alike(0, " + bad + ")", x.alike(0, bad), -1);
-            due("alike(" + bad + ", " + bad + ")", x.alike(bad, bad), -1);
-        }
-        for (int bad : NO_NODES) {
-            due("parent(0, " + bad + ")", x.parent(0, bad), -1);
-            due("parent(1, " + bad + ")", x.parent(1, bad), -1);
-            due("children(0, " + bad + ")", x.children(0, bad), -1);
-            due("depth(0, " + bad + ")", x.depth(0, bad), -1);
-        }
-        due("parent(0, 0)", x.parent(0, 0), -1);
-    }
-
     private static void promise7LabelFollowsTheStamps() {
         MoveTree x = new MoveTree();
         x.name(2, 4, 11);
@@ -329,23 +189,6 @@ public final class PromiseTest {
         x.sync(1, 2);
         due("label(2, 4), the greater number", x.label(2, 4), 14);
         due("label(2, 5) another node", x.label(2, 5), 0);
-    }
-
-    private static void promise7LabelRefuses() {
-        MoveTree x = new MoveTree();
-        for (int node = 0; node < 10; node++) {
-            for (int r = 0; r < 3; r++) {
-                x.name(r, node, 5);
-            }
-        }
-        for (int bad : NO_REPLICAS) {
-            due("label(" + bad + ", 1)", x.label(bad, 1), 0);
-        }
-        for (int bad : NO_NODES) {
-            for (int r = 0; r < 3; r++) {
-                due("label(" + r + ", " + bad + ")", x.label(r, bad), 0);
-            }
-        }
     }
 
     private static void promise8ChildrenAreCounted() {
