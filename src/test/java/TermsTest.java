@@ -1,6 +1,7 @@
 /** The boundary cases that the document names before its promises: one method for each sentence. */
 public final class TermsTest {
     public static void main(String[] args) {
+        itIsATreeEverywhereAllTheTime();
         anObjectIsUsedForAtMost512Calls();
         theRootNeverHasAParent();
         everyOtherNodeHasAParentOrNone();
@@ -24,6 +25,50 @@ public final class TermsTest {
 
     private static void due(String call, int got, int want) {
         Answers.due(call, got, want);
+    }
+
+    // "a tree whose nodes are moved at three places at once, and which is a tree everywhere all
+    // the time.": looking takes calls, so each look is at an object of its own.
+    private static void itIsATreeEverywhereAllTheTime() {
+        for (int calls = 0; calls <= 240; calls++) {
+            for (int r = 0; r < 3; r++) {
+                dueTree("after " + calls + " calls", movedAtThreePlaces(calls), r);
+            }
+        }
+        MoveTree x = movedAtThreePlaces(240);
+        due("alike(0, 1) once all is told", x.alike(0, 1), 1);
+        due("alike(0, 2) once all is told", x.alike(0, 2), 1);
+    }
+
+    /** Moves in circles at the three replicas in turn, each followed by a deliver; 240 calls tell all. */
+    private static MoveTree movedAtThreePlaces(int calls) {
+        MoveTree x = new MoveTree();
+        for (int i = 0; i < calls; i++) {
+            int turn = i / 2;
+            int from = turn % 3;
+            if (i % 2 == 0) {
+                x.move(from, 1 + turn % 9, 1 + (turn + 1 + turn / 9) % 9);
+            } else {
+                x.deliver(from, (from + 1 + turn / 3 % 2) % 3);
+            }
+        }
+        return x;
+    }
+
+    private static void dueTree(String when, MoveTree x, int r) {
+        int withParent = 0;
+        int children = 0;
+        for (int node = 0; node < 10; node++) {
+            int steps = 0;
+            for (int at = x.parent(r, node); at != -1 && steps < 10; at = x.parent(r, at)) {
+                steps++;
+            }
+            Answers.holds("the way up from " + node + " at " + r + " ends " + when, steps < 10);
+            due("depth(" + r + ", " + node + ") " + when, x.depth(r, node), steps);
+            withParent += steps > 0 ? 1 : 0;
+            children += x.children(r, node);
+        }
+        due("the children of all nodes at " + r + " " + when, children, withParent);
     }
 
     // "An object is used for at most 512 calls after it has been made; what later calls answer
