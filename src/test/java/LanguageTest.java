@@ -1,3 +1,4 @@
+import com.sun.source.tree.ArrayAccessTree;
 import com.sun.source.tree.ArrayTypeTree;
 import com.sun.source.tree.BinaryTree;
 import com.sun.source.tree.BlockTree;
@@ -20,6 +21,7 @@ import com.sun.source.util.Trees;
 import java.nio.file.Path;
 import java.util.EnumSet;
 import java.util.HashMap;
+import java.util.HashSet;
 import java.util.Map;
 import java.util.Set;
 import java.util.TreeSet;
@@ -112,6 +114,7 @@ public final class LanguageTest {
         final Map<String, Set<String>> calls = new HashMap<>();
         private final CompilationUnitTree unit;
         private final Trees trees;
+        private final Set<String> arrays = new HashSet<>();
         private String method = null;
         private boolean inArguments = false;
 
@@ -157,6 +160,7 @@ public final class LanguageTest {
             Tree type = tree.getType();
             if (type instanceof ArrayTypeTree array) {
                 type = array.getType();
+                arrays.add(tree.getName().toString());
             }
             holds(tree, "rule 2: a number, a boolean or an array of these",
                 type != null && type.getKind() == Tree.Kind.PRIMITIVE_TYPE);
@@ -180,6 +184,19 @@ public final class LanguageTest {
         }
 
         @Override
+        public Void visitArrayAccess(ArrayAccessTree tree, Void unused) {
+            holds(tree, "rule 2: an array that is indexed has a name", tree.getExpression() instanceof IdentifierTree);
+            return scan(tree.getIndex(), unused);
+        }
+
+        @Override
+        public Void visitIdentifier(IdentifierTree tree, Void unused) {
+            holds(tree, "rule 4: an array is indexed and used in no other way",
+                !arrays.contains(tree.getName().toString()));
+            return null;
+        }
+
+        @Override
         public Void visitBinary(BinaryTree tree, Void unused) {
             holds(tree, "rule 7: a divisor is a literal or a constant",
                 tree.getKind() != Tree.Kind.DIVIDE || isLiteralOrConstant(tree.getRightOperand()));
@@ -194,6 +211,7 @@ public final class LanguageTest {
         @Override
         public Void visitMethodInvocation(MethodInvocationTree tree, Void unused) {
             holds(tree, "rule 10: no call stands inside the arguments of another", !inArguments);
+            holds(tree, "rule 5: a field's initialiser calls nothing", method != null);
             if (method != null && tree.getMethodSelect() instanceof IdentifierTree called) {
                 calls.get(method).add(called.getName().toString());
             }
